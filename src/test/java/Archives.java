@@ -1,0 +1,125 @@
+import java.io.ByteArrayOutputStream;
+import java.util.ArrayList;
+import java.util.List;
+import java.util.zip.CRC32;
+
+/** Archives made by the document's words alone, without the class under test. */
+final class Archives {
+    private Archives() {
+    }
+
+    /** A file as its headers tell it; each field may be made wrong. */
+    static final class Part {
+        byte[] name;
+        byte[] packed;
+        int method;
+        int crc;
+        long size;
+        long packedSize;
+
+        Part(String name, byte[] content) {
+            byte[] folded = fold(content);
+            boolean shorter = folded.length < content.length;
+            this.name = Desks.bytes(name);
+            this.packed = shorter ? folded : content;
+            this.method = shorter ? 99 : 0;
+            this.crc = crc(content);
+            this.size = content.length;
+            this.packedSize = packed.length;
+        }
+
+        /** METHOD 99 with these packed bytes, whether they are good or not. */
+        static Part folded(String name, byte[] packed, byte[] content) {
+            Part part = new Part(name, content);
+            part.method = 99;
+            part.packed = packed;
+            part.packedSize = packed.length;
+            return part;
+        }
+
+        /** METHOD 0, where THE FOLDING would be shorter too. */
+        static Part plain(String name, byte[] content) {
+            Part part = new Part(name, content);
+            part.method = 0;
+            part.packed = content;
+            part.packedSize = content.length;
+            return part;
+        }
+
+        byte[] local() {
+            return Desks.join(new byte[] {80, 75, 3, 4}, shared(), name, packed);
+        }
+
+        byte[] central(long localAt) {
+            return Desks.join(new byte[] {80, 75, 1, 2}, number(20, 2), shared(), number(0, 2),
+                    number(0, 2), number(0, 2), number(0, 4), number(localAt, 4), name);
+        }
+
+        private byte[] shared() {
+            return Desks.join(number(20, 2), number(0, 2), number(method, 2), number(0, 2),
+                    number(33, 2), number(crc, 4), number(packedSize, 4), number(size, 4),
+                    number(name.length, 2), number(0, 2));
+        }
+    }
+
+    static byte[] number(long value, int bytes) {
+        byte[] row = new byte[bytes];
+        for (int i = 0; i < bytes; i++) {
+            row[i] = (byte) (value >> 8 * i);
+        }
+        return row;
+    }
+
+    static byte[] end(int files, long size, long first) {
+        return Desks.join(new byte[] {80, 75, 5, 6}, number(0, 4), number(files, 2),
+                number(files, 2), number(size, 4), number(first, 4), number(0, 2));
+    }
+
+    static byte[] archive(Part... parts) {
+        byte[] locals = new byte[0];
+        byte[] centrals = new byte[0];
+        for (Part part : parts) {
+            centrals = Desks.join(centrals, part.central(locals.length));
+            locals = Desks.join(locals, part.local());
+        }
+        return Desks.join(locals, centrals, end(parts.length, centrals.length, locals.length));
+    }
+
+    static int crc(byte[] row) {
+        CRC32 crc = new CRC32();
+        crc.update(row);
+        return (int) crc.getValue();
+    }
+
+    /** First cuts the bytes into stretches, then writes these as groups. */
+    static byte[] fold(byte[] row) {
+        List<int[]> runs = new ArrayList<>();
+        for (int at = 0; at < row.length; ) {
+            int n = 1;
+            while (n < 128 && at + n < row.length && row[at + n] == row[at]) {
+                n++;
+            }
+            if (n >= 3) {
+                runs.add(new int[] {at, n});
+            }
+            at += n >= 3 ? n : 1;
+        }
+        runs.add(new int[] {row.length, 0});
+        ByteArrayOutputStream out = new ByteArrayOutputStream();
+        int at = 0;
+        for (int[] run : runs) {
+            while (at < run[0]) {
+                int n = Math.min(128, run[0] - at);
+                out.write(n - 1);
+                out.write(row, at, n);
+                at += n;
+            }
+            if (run[1] > 0) {
+                out.write(257 - run[1]);
+                out.write(row[at]);
+                at += run[1];
+            }
+        }
+        return out.toByteArray();
+    }
+}
