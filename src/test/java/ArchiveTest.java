@@ -78,7 +78,20 @@ public final class ArchiveTest {
             }
         }
         dueFolded("as long as it was", Desks.bytes("abcaaa"));
+        dueFolded("every second alike", Desks.bytes("ababaaaaaabcbcbaabaaaaabbabb"));
         dueFolded("a byte that looks like a count", Desks.times(128, 200));
+    }
+
+    /** The bytes of one file do not go on in the next, however alike they are. */
+    private static void neighbours() {
+        ArchiveDesk desk = new ArchiveDesk();
+        Archives.Part[] parts = new Archives.Part[4];
+        String[] contents = {"aaaaaazz", "zzzzzzbzz", "zbbbbbbbz", "zz"};
+        for (int i = 0; i < 4; i++) {
+            Desks.addFile(desk, "n" + i, Desks.bytes(contents[i]));
+            parts[i] = new Archives.Part("n" + i, Desks.bytes(contents[i]));
+        }
+        dueArchive("neighbours", desk, parts);
     }
 
     private static void largest() {
@@ -113,6 +126,7 @@ public final class ArchiveTest {
         written();
         byHand();
         folded();
+        neighbours();
         largest();
         zip();
         CHECKS.finish();

@@ -232,6 +232,8 @@ public final class FilesTest {
         dueFile(Desks.bytes("aaab"), 4, 0);
         dueFile(Desks.bytes("aaaab"), 4, 99);
         dueFile(Desks.bytes("aabbccdd"), 8, 0);
+        dueFile(Desks.bytes("abaca"), 5, 0);
+        dueFile(Desks.bytes("aabaabcbc"), 9, 0);
         dueFile(Desks.loose(128), 128, 0);
         dueFile(Desks.loose(1500), 1500, 0);
         dueFile(Desks.join(Desks.loose(128), Desks.times(0, 4)), 131, 99);

@@ -103,6 +103,9 @@ public final class ReadTest {
         byte[] longest = Desks.join(new byte[] {127}, Desks.loose(128), new byte[] {-127, 9});
         byte[] plain = Desks.join(Desks.loose(128), Desks.times(9, 128));
         dueRead("longest groups", Archives.archive(Archives.Part.folded("a", longest, plain)), 1);
+        byte[] groups = Desks.join(Archives.fold(Desks.loose(1500)));
+        Archives.Part all = Archives.Part.folded("a", groups, Desks.loose(1500));
+        dueRead("1500 in loose groups", Archives.archive(all), 1);
         byte[] most = Desks.times(7, 1500);
         dueRead("1500", Archives.archive(new Archives.Part("a", most), new Archives.Part("b", most),
                 new Archives.Part("c", most), new Archives.Part("d", most)), 4);
@@ -173,6 +176,11 @@ public final class ReadTest {
         dueFault("begins too late", endedBy(2, CENTRAL_A + 1), 2, 0, CENTRAL_A + 1);
         dueFault("the second alone", endedBy(2, CENTRAL_B), 2, 1, END);
         dueFault("size 0", endedBy(2, END), 2, 0, END);
+        for (int n : new int[] {3, 4}) {
+            // The name goes on with the END's first letters, P and K.
+            dueFault("a name that reaches into the END",
+                    with(endedBy(2, CENTRAL_B), CENTRAL_B + 28, n, 2), 2, 0, CENTRAL_B);
+        }
         dueFault("begins at 0", endedBy(2, 0), 2, 0, 0);
         dueFault("a name twice", Archives.archive(a(), b(), a()), 2, 2, 2 * LOCAL_B + 34 + 47 + 48);
         dueRead("a name that begins alike",
@@ -239,6 +247,10 @@ public final class ReadTest {
         dueFault("fewer of the last", Archives.archive(fewer), 3, 0, 0);
         dueFault("fewer of the first", Archives.archive(fewer, b()), 3, 1, LOCAL_B - 1);
         Archives.Part more = a();
+        more.packedSize = CENTRAL_A + 1 - 31;
+        dueFault("one beyond the first central header", Archives.archive(more, b()), 3, 0, 0);
+        more.packedSize = CENTRAL_A - 31;
+        dueFault("up to it", Archives.archive(more, b()), 3, 1, CENTRAL_A);
         more.packedSize = 14;
         dueFault("more of the first", Archives.archive(more, b()), 3, 1, LOCAL_B + 1);
     }

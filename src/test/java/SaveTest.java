@@ -160,6 +160,31 @@ public final class SaveTest {
         dueSaved("bytes that reach beyond", reaching, 1, "b ");
     }
 
+    /** The next header is looked for behind the bytes of a saved file, not in them. */
+    private static void overlapping() {
+        byte[] row = part("inner").local();
+        for (int n = 1; n < row.length; n++) {
+            Archives.Part outer = Archives.Part.plain("outer", Arrays.copyOf(row, n));
+            byte[] rest = Arrays.copyOfRange(row, n, row.length);
+            dueSaved("from " + n, Desks.join(outer.local(), rest), 1, "outer ");
+        }
+    }
+
+    /** What was on the tape is there no more, and nothing is there behind byte 9000. */
+    private static void tapesEnd() {
+        byte[] row = part("a").local();
+        for (int n = 0; n < row.length; n++) {
+            ArchiveDesk desk = new ArchiveDesk();
+            Desks.put(desk, row);
+            desk.cut(n);
+            CHECKS.due("cut to " + n, desk.save(), 0);
+            ArchiveDesk full = new ArchiveDesk();
+            byte[] long9000 = Desks.join(new byte[9000 - n], Arrays.copyOf(row, n));
+            dueSaved("the last " + n, full, long9000, 0, "");
+        }
+        dueSaved("the last of all", Desks.join(new byte[9000 - row.length], row), 1, "a ");
+    }
+
     private static void faultStays() {
         ArchiveDesk desk = new ArchiveDesk();
         Desks.put(desk, Archives.archive(part("a")));
@@ -180,6 +205,8 @@ public final class SaveTest {
         sameName();
         room();
         nested();
+        overlapping();
+        tapesEnd();
         faultStays();
         CHECKS.finish();
     }

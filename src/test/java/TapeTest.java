@@ -36,6 +36,8 @@ public final class TapeTest {
         CHECKS.due("new make", desk.make(), 22);
         ArchiveDesk other = new ArchiveDesk();
         CHECKS.due("another object shares nothing", other.about(1), 0);
+        CHECKS.due("twenty bytes are ready", other.end(20, 1), 20);
+        CHECKS.dueThrow("of no letters", IllegalArgumentException.class, () -> other.add(1));
     }
 
     private static void feed() {
