@@ -440,7 +440,7 @@ public final class ArchiveDesk {
             int total = 0;
             int at = from;
             while (at < end) {
-                int group = group(row, at, end);
+                int group = nextGroup(row, at, end);
                 total += group > 0 ? 2 : 1 - group;
                 at += Math.max(1, Math.abs(group));
             }
@@ -451,7 +451,7 @@ public final class ArchiveDesk {
             int end = from + n;
             int at = from;
             while (at < end) {
-                int group = group(row, at, end);
+                int group = nextGroup(row, at, end);
                 if (group > 0) {
                     to.push(257 - group);
                     to.push(row.at(at));
@@ -468,7 +468,7 @@ public final class ArchiveDesk {
          * are as they are. Where loose bytes are cut at 128, no row of alike ones begins, so that
          * the rest can be looked at anew.
          */
-        private static int group(Row row, int at, int end) {
+        private static int nextGroup(Row row, int at, int end) {
             int bound = Math.min(end, at + LONGEST_GROUP);
             int alike = 1;
             while (at + alike < bound && row.at(at + alike) == row.at(at)) {

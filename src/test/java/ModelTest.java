@@ -58,18 +58,23 @@ public final class ModelTest {
         }
     }
 
+    private void sameDone(String call, Runnable got, Runnable want) {
+        same(call, () -> {
+            got.run();
+            return 0;
+        }, () -> {
+            want.run();
+            return 0;
+        });
+    }
+
     private static long number(boolean value) {
         return value ? 1 : 0;
     }
 
     private void feed(int a, int b, int c, int d, int e) {
-        same("feed(" + a + ", " + b + ", " + c + ", " + d + ", " + e + ")", () -> {
-            desk.feed(a, b, c, d, e);
-            return 0;
-        }, () -> {
-            model.feed(a, b, c, d, e);
-            return 0;
-        });
+        sameDone("feed(" + a + ", " + b + ", " + c + ", " + d + ", " + e + ")",
+                () -> desk.feed(a, b, c, d, e), () -> model.feed(a, b, c, d, e));
     }
 
     private void end(int n, int times) {
@@ -98,53 +103,28 @@ public final class ModelTest {
     }
 
     private void replace(int k) {
-        same("replace(" + k + ")", () -> {
-            desk.replace(k);
-            return 0;
-        }, () -> {
-            model.replace(k);
-            return 0;
-        });
+        sameDone("replace(" + k + ")",
+                () -> desk.replace(k), () -> model.replace(k));
     }
 
     private void rename(int k) {
-        same("rename(" + k + ")", () -> {
-            desk.rename(k);
-            return 0;
-        }, () -> {
-            model.rename(k);
-            return 0;
-        });
+        sameDone("rename(" + k + ")",
+                () -> desk.rename(k), () -> model.rename(k));
     }
 
     private void remove(int k) {
-        same("remove(" + k + ")", () -> {
-            desk.remove(k);
-            return 0;
-        }, () -> {
-            model.remove(k);
-            return 0;
-        });
+        sameDone("remove(" + k + ")",
+                () -> desk.remove(k), () -> model.remove(k));
     }
 
     private void sort() {
-        same("sort()", () -> {
-            desk.sort();
-            return 0;
-        }, () -> {
-            model.sort();
-            return 0;
-        });
+        sameDone("sort()",
+                () -> desk.sort(), () -> model.sort());
     }
 
     private void clear() {
-        same("clear()", () -> {
-            desk.clear();
-            return 0;
-        }, () -> {
-            model.clear();
-            return 0;
-        });
+        sameDone("clear()",
+                () -> desk.clear(), () -> model.clear());
     }
 
     private void make() {
