@@ -20,7 +20,7 @@ final class Archives {
         Part(String name, byte[] content) {
             byte[] folded = fold(content);
             boolean shorter = folded.length < content.length;
-            this.name = Desks.bytes(name);
+            this.name = Bytes.of(name);
             this.packed = shorter ? folded : content;
             this.method = shorter ? 99 : 0;
             this.crc = crc(content);
@@ -47,16 +47,16 @@ final class Archives {
         }
 
         byte[] local() {
-            return Desks.join(new byte[] {80, 75, 3, 4}, shared(), name, packed);
+            return Bytes.join(new byte[] {80, 75, 3, 4}, shared(), name, packed);
         }
 
         byte[] central(long localAt) {
-            return Desks.join(new byte[] {80, 75, 1, 2}, number(20, 2), shared(), number(0, 2),
+            return Bytes.join(new byte[] {80, 75, 1, 2}, number(20, 2), shared(), number(0, 2),
                     number(0, 2), number(0, 2), number(0, 4), number(localAt, 4), name);
         }
 
         private byte[] shared() {
-            return Desks.join(number(20, 2), number(0, 2), number(method, 2), number(0, 2),
+            return Bytes.join(number(20, 2), number(0, 2), number(method, 2), number(0, 2),
                     number(33, 2), number(crc, 4), number(packedSize, 4), number(size, 4),
                     number(name.length, 2), number(0, 2));
         }
@@ -71,7 +71,7 @@ final class Archives {
     }
 
     static byte[] end(int files, long size, long first) {
-        return Desks.join(new byte[] {80, 75, 5, 6}, number(0, 4), number(files, 2),
+        return Bytes.join(new byte[] {80, 75, 5, 6}, number(0, 4), number(files, 2),
                 number(files, 2), number(size, 4), number(first, 4), number(0, 2));
     }
 
@@ -79,10 +79,10 @@ final class Archives {
         byte[] locals = new byte[0];
         byte[] centrals = new byte[0];
         for (Part part : parts) {
-            centrals = Desks.join(centrals, part.central(locals.length));
-            locals = Desks.join(locals, part.local());
+            centrals = Bytes.join(centrals, part.central(locals.length));
+            locals = Bytes.join(locals, part.local());
         }
-        return Desks.join(locals, centrals, end(parts.length, centrals.length, locals.length));
+        return Bytes.join(locals, centrals, end(parts.length, centrals.length, locals.length));
     }
 
     static int crc(byte[] row) {

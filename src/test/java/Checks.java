@@ -5,6 +5,7 @@ final class Checks {
     }
 
     private final String test;
+    private String label = "";
     private int made;
     private int wrong;
 
@@ -12,11 +13,15 @@ final class Checks {
         this.test = test;
     }
 
+    /** What is looked at from now on, for the lines that tell of a wrong answer. */
+    void about(String what) {
+        label = what + ": ";
+    }
+
     void due(String what, long got, long want) {
         made++;
         if (got != want) {
-            wrong++;
-            System.out.println(test + ": " + what + " answered " + got + ", due is " + want);
+            tell(what + " answered " + got + ", due is " + want);
         }
     }
 
@@ -24,13 +29,10 @@ final class Checks {
         due(what, got ? 1 : 0, want ? 1 : 0);
     }
 
-    void dueBytes(String what, byte[] got, byte[] want) {
-        due(what + ": how many bytes", got.length, want.length);
-        for (int i = 0; i < Math.min(got.length, want.length); i++) {
-            if (got[i] != want[i]) {
-                due(what + ": byte " + i, got[i] & 255, want[i] & 255);
-                return;
-            }
+    void due(String what, String got, String want) {
+        made++;
+        if (!got.equals(want)) {
+            tell(what + " is \"" + got + "\", due is \"" + want + "\"");
         }
     }
 
@@ -39,8 +41,7 @@ final class Checks {
         made++;
         Class<?> got = thrownBy(call);
         if (got != want) {
-            wrong++;
-            System.out.println(test + ": " + what + " threw " + got + ", due is " + want);
+            tell(what + " threw " + got + ", due is " + want);
         }
     }
 
@@ -51,6 +52,20 @@ final class Checks {
         } catch (RuntimeException e) {
             return e.getClass();
         }
+    }
+
+    /** A test that cannot go on. */
+    void broken(Throwable why) {
+        tell("ended by " + why + " at " + why.getStackTrace()[0]);
+    }
+
+    private void tell(String line) {
+        wrong++;
+        System.out.println(test + ": " + label + line);
+    }
+
+    int wrong() {
+        return wrong;
     }
 
     boolean clean() {

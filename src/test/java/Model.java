@@ -41,7 +41,7 @@ final class Model {
             return NONE;
         }
         for (int i = 0; i < times; i++) {
-            tape = Desks.join(tape, Arrays.copyOf(ready, n));
+            tape = Bytes.join(tape, Arrays.copyOf(ready, n));
         }
         ready = new byte[20];
         return tape.length;
@@ -75,7 +75,7 @@ final class Model {
         if (tape.length + output.length > 9000) {
             throw new IllegalStateException();
         }
-        tape = Desks.join(tape, output);
+        tape = Bytes.join(tape, output);
         return tape.length;
     }
 
@@ -261,7 +261,7 @@ final class Model {
                 return null;
             }
             byte[] next = Arrays.copyOfRange(packed, at, at + follow);
-            all = Desks.join(all, c > 128 ? Desks.times(next[0], 257 - c) : next);
+            all = Bytes.join(all, c > 128 ? Bytes.times(next[0], 257 - c) : next);
             at += follow;
         }
         return all;

@@ -186,8 +186,8 @@ public final class ModelTest {
         int at = 0;
         while (at < row.length && calls < CALLS) {
             int n = Math.min(20, row.length - at);
-            feed(Desks.word(row, at), Desks.word(row, at + 4), Desks.word(row, at + 8),
-                    Desks.word(row, at + 12), Desks.word(row, at + 16));
+            feed(Bytes.word(row, at), Bytes.word(row, at + 4), Bytes.word(row, at + 8),
+                    Bytes.word(row, at + 12), Bytes.word(row, at + 16));
             end(n, 1);
             at += n;
         }
@@ -211,10 +211,10 @@ public final class ModelTest {
     private void addLarge() {
         String name = someName();
         cut(0);
-        put(Desks.bytes(name));
-        byte[] pattern = Desks.join(someBytes(20), new byte[20]);
-        feed(Desks.word(pattern, 0), Desks.word(pattern, 4), Desks.word(pattern, 8),
-                Desks.word(pattern, 12), Desks.word(pattern, 16));
+        put(Bytes.of(name));
+        byte[] pattern = Bytes.join(someBytes(20), new byte[20]);
+        feed(Bytes.word(pattern, 0), Bytes.word(pattern, 4), Bytes.word(pattern, 8),
+                Bytes.word(pattern, 12), Bytes.word(pattern, 16));
         end(1 + below(20), 1 + below(100));
         if (chance(20)) {
             feed(random.nextInt(), random.nextInt(), 0, 0, 0);
@@ -228,7 +228,7 @@ public final class ModelTest {
         if (chance(90)) {
             cut(0);
         }
-        put(Desks.join(Desks.bytes(name), someBytes(60)));
+        put(Bytes.join(Bytes.of(name), someBytes(60)));
         add(chance(95) ? name.length() : near(35));
     }
 
@@ -283,18 +283,18 @@ public final class ModelTest {
                 part.method = part.method == 0 ? 99 : 0;
                 break;
             case 4:
-                part.name = Desks.bytes(chance(50) ? "a b" : "");
+                part.name = Bytes.of(chance(50) ? "a b" : "");
                 break;
             case 5:
                 part.packed = someBytes(20);
                 part.packedSize = part.packed.length;
                 break;
             case 6:
-                part.packed = Desks.join(new byte[] {(byte) 128}, part.packed);
+                part.packed = Bytes.join(new byte[] {(byte) 128}, part.packed);
                 part.packedSize++;
                 break;
             default:
-                part.packed = Desks.join(part.packed, new byte[] {0});
+                part.packed = Bytes.join(part.packed, new byte[] {0});
         }
     }
 
@@ -304,7 +304,7 @@ public final class ModelTest {
         byte[] locals = new byte[0];
         for (int i = 0; i < parts.length; i++) {
             parts[i] = somePart();
-            locals = Desks.join(locals, parts[i].local(), chance(10) ? someBytes(9) : new byte[0]);
+            locals = Bytes.join(locals, parts[i].local(), chance(10) ? someBytes(9) : new byte[0]);
         }
         byte[] row = chance(70) ? Archives.archive(parts) : locals;
         for (int i = 0; row.length > 0 && i < 2; i++) {
@@ -353,7 +353,7 @@ public final class ModelTest {
                 break;
             case 1:
                 cut(0);
-                put(Desks.bytes(someName()));
+                put(Bytes.of(someName()));
                 same("find()", desk::find, model::find);
                 rename(k);
                 break;
