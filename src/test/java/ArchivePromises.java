@@ -198,6 +198,31 @@ final class ArchivePromises extends Chapter {
         desk.drop(1);
         dueThrow("and a bad one", ARGUMENT, desk::read);
         due("1", desk.fault(0), 1);
+        oneBehindAnother();
+    }
+
+    /** Nothing of an earlier reading is left in a later one. */
+    private void oneBehindAnother() {
+        byte[][] tapes = new byte[9][];
+        for (int fault = 0; fault <= 6; fault++) {
+            tapes[fault] = Archives.withFault(fault);
+        }
+        byte[] two = Archives.withFault(2);
+        tapes[7] = Bytes.flipped(two, two.length - 22, 0);
+        tapes[8] = Archives.archive();
+        for (int i = 0; i < tapes.length; i++) {
+            for (int j = 0; j < tapes.length; j++) {
+                Desk desk = new Desk();
+                readAndTell(desk, tapes[i]);
+                due(j + " behind " + i, readAndTell(desk, tapes[j]), readAndTell(new Desk(), tapes[j]));
+            }
+        }
+    }
+
+    private static String readAndTell(Desk desk, byte[] tape) {
+        desk.setTape(tape);
+        Class<?> thrown = Checks.thrownBy(desk::read);
+        return thrown + " " + desk.fault(0) + " " + desk.fault(1) + " " + desk.fault(2);
     }
 
     private void noFault() {

@@ -5,6 +5,8 @@ import java.util.zip.CRC32;
 
 /** Archives made by the document's words alone, without the class under test. */
 final class Archives {
+    private static final int NOWHERE = -1;
+
     private Archives() {
     }
 
@@ -83,6 +85,18 @@ final class Archives {
             locals = Bytes.join(locals, part.local());
         }
         return Bytes.join(locals, centrals, end(parts.length, centrals.length, locals.length));
+    }
+
+    /** Of two files, "f0" and "f1", of which the second has the fault, or the END; 0: whole. */
+    static byte[] withFault(int fault) {
+        Part good = new Part("f0", Bytes.of("new"));
+        Part bad = Part.folded("f1", Bytes.of(0, 7), Bytes.of(7));
+        bad.size = fault == 4 ? 1501 : fault == 5 ? 2 : 1;
+        bad.crc ^= fault == 6 ? 1 : 0;
+        byte[] row = archive(good, bad);
+        int end = row.length - 22;
+        int[] broken = {NOWHERE, end, end - 48, 30 + 2 + 3, NOWHERE, NOWHERE, NOWHERE};
+        return broken[fault] == NOWHERE ? row : Bytes.flipped(row, broken[fault], 0);
     }
 
     static int crc(byte[] row) {

@@ -328,24 +328,9 @@ final class FilesTerms extends Chapter {
         readChangesNothing();
     }
 
-    /** One archive for each fault, of two files where the second has it. */
     private void readChangesNothing() {
-        Archives.Part good = new Archives.Part("f0", Bytes.of("new"));
-        Archives.Part bad = Archives.Part.folded("f1", Bytes.of(0, 7), Bytes.of(7));
-        byte[] row = Archives.archive(good, bad);
-        byte[][] tapes = new byte[7][];
-        tapes[1] = Bytes.flipped(row, row.length - 1, 0);
-        tapes[2] = Bytes.flipped(row, row.length - 22 - 48, 0);
-        tapes[3] = Bytes.flipped(row, 35, 0);
-        bad.size = 1501;
-        tapes[4] = Archives.archive(good, bad);
-        bad.size = 2;
-        tapes[5] = Archives.archive(good, bad);
-        bad.size = 1;
-        bad.crc++;
-        tapes[6] = Archives.archive(good, bad);
         for (int fault = 1; fault <= 6; fault++) {
-            byte[] tape = tapes[fault];
+            byte[] tape = Archives.withFault(fault);
             unchanged("read with fault " + fault, ARGUMENT, () -> filled(tape, 3, 4), Desk::read);
             Desk desk = filled(tape, 3, 4);
             dueThrow("read", ARGUMENT, desk::read);
