@@ -6,7 +6,6 @@ import java.lang.reflect.Modifier;
 import java.nio.file.Files;
 import java.nio.file.Path;
 import java.util.Arrays;
-import java.util.List;
 import java.util.Set;
 import java.util.TreeSet;
 import java.util.regex.Matcher;
@@ -17,32 +16,22 @@ import java.util.stream.Collectors;
 public final class FaceTest {
     private static final Checks CHECKS = new Checks("FaceTest");
     private static final Path SOURCE = Path.of("src/main/java/ArchiveDesk.java");
-    private static final String[] METHODS = {
-        "void feed(int, int, int, int, int)",
-        "int end(int, int)",
-        "boolean cut(int)",
-        "boolean drop(int)",
-        "boolean flip(int, int)",
-        "int take() throws IllegalStateException",
-        "int add(int) throws IllegalArgumentException, IllegalStateException",
-        "void replace(int) throws IndexOutOfBoundsException, IllegalArgumentException,"
-            + " IllegalStateException",
-        "void rename(int) throws IndexOutOfBoundsException, IllegalArgumentException,"
-            + " IllegalStateException",
-        "void remove(int) throws IndexOutOfBoundsException",
-        "void sort()",
-        "void clear()",
-        "int make()",
-        "int read() throws IllegalArgumentException",
-        "int fault(int)",
-        "int save()",
-        "int file(int, int)",
-        "int letter(int, boolean, int)",
-        "int find()",
-        "int output(int)",
-        "int about(int)"};
+    private static final Path DOCUMENT = Path.of("../shared/DOC.md");
+    /** Promises 2 to 22 have one each. */
+    private static final int CALLS = 21;
+    private static final String CALL = "((?:void|int|boolean) \\w+\\(.*\\).*)";
 
     private FaceTest() {
+    }
+
+    /** The calls that stand in lines of that form, without the names of what they are given. */
+    private static Set<String> shapes(String document, String form) {
+        Set<String> shapes = new TreeSet<>();
+        Matcher line = Pattern.compile("(?m)" + form).matcher(document);
+        while (line.find()) {
+            shapes.add(line.group(1).replaceAll("(int|boolean) \\w+(?=[,)])", "$1"));
+        }
+        return shapes;
     }
 
     private static String names(Class<?>[] types) {
@@ -55,7 +44,7 @@ public final class FaceTest {
                 + names(method.getParameterTypes()) + ")" + (thrown.isEmpty() ? "" : " throws " + thrown);
     }
 
-    private static void face() throws ReflectiveOperationException {
+    private static void face(Set<String> due) throws ReflectiveOperationException {
         Class<?> desk = ArchiveDesk.class;
         CHECKS.due("public and final", desk.getModifiers(), Modifier.PUBLIC | Modifier.FINAL);
         Set<String> shapes = new TreeSet<>();
@@ -67,7 +56,7 @@ public final class FaceTest {
                 CHECKS.due("private: " + method, Modifier.isPrivate(method.getModifiers()), true);
             }
         }
-        CHECKS.due("methods " + shapes, shapes.equals(new TreeSet<>(List.of(METHODS))), true);
+        CHECKS.due("methods", shapes.toString(), due.toString());
         for (Field field : desk.getDeclaredFields()) {
             boolean none = field.getName().equals("NONE");
             int want = Modifier.PUBLIC | Modifier.STATIC | Modifier.FINAL;
@@ -81,10 +70,10 @@ public final class FaceTest {
         CHECKS.due("without arguments", constructors[0].getParameterCount(), 0);
     }
 
-    private static void classesInside() {
-        Set<String> face = Arrays.stream(METHODS).map(shape -> shape.replaceAll("\\(.*", ""))
+    private static void classesInside(Set<String> due) {
+        Set<String> face = due.stream().map(shape -> shape.replaceAll("\\(.*", ""))
                 .map(shape -> shape.replaceAll(".* ", "")).collect(Collectors.toSet());
-        CHECKS.due("names of the face", face.size(), METHODS.length);
+        CHECKS.due("names of the face", face.size(), due.size());
         for (Class<?> inside : ArchiveDesk.class.getDeclaredClasses()) {
             int modifiers = inside.getModifiers();
             CHECKS.due("static: " + inside, Modifier.isStatic(modifiers), true);
@@ -118,8 +107,12 @@ public final class FaceTest {
     }
 
     public static void main(String[] args) throws IOException, ReflectiveOperationException {
-        face();
-        classesInside();
+        String document = Files.readString(DOCUMENT);
+        Set<String> due = shapes(document, "^    public " + CALL + ";$");
+        CHECKS.due("calls of the face", due.size(), CALLS);
+        CHECKS.due("calls of the promises", shapes(document, "^`" + CALL + "`:").toString(), due.toString());
+        face(due);
+        classesInside(due);
         text();
         CHECKS.finish();
     }
